@@ -201,9 +201,6 @@ public final class WinnersLeave {
         if (how < 0 || how > 1 || result < 0 || result > 2) {
             return OUTSIDE;
         }
-        if (notebook.count >= MOST_READINGS) {
-            return FULL;
-        }
         return notebook.note(a, b, how, result);
     }
 

@@ -201,6 +201,8 @@ public final class GamesTest {
         }
         Due.row(x, 0, 2, 3, 1, 0, 6);
         DUE.is("pair by pair: UNKNOWN first", x.season(0, 2, 0, 2, 0), UNKNOWN);
+        Due.row(x, 0, 2, 0, 1, 3, 1);
+        DUE.is("the second pair, too", x.season(0, 2, 0, 2, 0), UNKNOWN);
         Due.row(x, 0, 2, 0, 6, 3, 1);
         DUE.is("pair by pair: OUTSIDE first", x.season(0, 2, 0, 2, 0), OUTSIDE);
         Due.row(x, 0, 2, 0, 0, 0, 6);

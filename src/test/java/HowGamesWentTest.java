@@ -150,6 +150,12 @@ public final class HowGamesWentTest {
         // WORST .. BEST: 3 .. 5, 3 .. 4, 8 .. 8, 0 .. 9, 9 .. 18, 0 .. 0
         WinnersLeave x = Due.town("v;p52;l31;c40;p99;c99;p00");
         odds(x, 0, 1, 1, 2);
+        odds(Due.town("v;p21;p32"), 0, 1, 1, 6);
+        odds(Due.town("v;p51;p43"), 0, 1, 7, 8);
+        odds(Due.town("v;p31;p43"), 1, 0, 3, 8);
+        odds(Due.town("v;p41;p43"), 0, 1, 5, 8);
+        odds(Due.town("v;p43;p41"), 0, 1, 1, 8);
+        odds(Due.town("v;p43;p43"), 0, 1, 3, 8);
         odds(x, 1, 0, 1, 6);
         odds(x, 0, 2, 0, 1);
         odds(x, 2, 0, 1, 1);

@@ -49,6 +49,7 @@ public final class WhoPlaysWhomTest {
         DUE.is("not those who are gone", x.sure(4), 0b101100);
         x.shy(4, 0);
         DUE.is("one gone himself", x.sure(4), 0b101100);
+        DUE.is("over the first one, too", Due.town("v;p00;p50;p40").sure(1), 0b101);
         DUE.is("-1", x.sure(-1), UNKNOWN);
         DUE.is("6th", x.sure(6), UNKNOWN);
     }
