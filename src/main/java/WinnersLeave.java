@@ -21,7 +21,7 @@ public final class WinnersLeave {
     private final Sheet[] sheets = new Sheet[SHEETS];
     private final Notebook notebook = new Notebook();
     private final Season told = new Season();
-    private final Pairing pairing = new Pairing(town);
+    private final Pairing pairing = new Pairing();
     private final Ranking ranking = new Ranking();
     private int gamesPlayed;
     private int marks;
@@ -173,7 +173,7 @@ public final class WinnersLeave {
         if (town.count == 0) {
             return STATE;
         }
-        pairing.find();
+        pairing.find(town);
         return k < 0 ? pairing.fewest : pairing.partnerOf(k);
     }
 
@@ -757,14 +757,9 @@ public final class WinnersLeave {
 
         private final int[] tried = new int[MOST_PEOPLE];
         private final int[] found = new int[MOST_PEOPLE];
-        private final Town town;
         private int fewest;
 
-        private Pairing(Town of) {
-            town = of;
-        }
-
-        private void find() {
+        private void find(Town town) {
             fewest = MOST_PEOPLE;
             Arrays.fill(tried, NOBODY);
             int here = 0;
@@ -774,11 +769,11 @@ public final class WinnersLeave {
                     here++;
                 }
             }
-            pairFrom(0, here % 2, 0);
+            pairFrom(town, 0, here % 2, 0);
         }
 
         /** Tries rows in their order, so that only one by which fewer are gone takes the place of an earlier one. */
-        private void pairFrom(int p, int mayRest, int gone) {
+        private void pairFrom(Town town, int p, int mayRest, int gone) {
             if (p >= town.count) {
                 if (gone < fewest) {
                     fewest = gone;
@@ -787,7 +782,7 @@ public final class WinnersLeave {
                 return;
             }
             if (tried[p] != OPEN) {
-                pairFrom(p + 1, mayRest, gone);
+                pairFrom(town, p + 1, mayRest, gone);
                 return;
             }
             for (int q = p + 1; q < town.count; q++) {
@@ -795,19 +790,19 @@ public final class WinnersLeave {
                     tried[p] = q;
                     tried[q] = p;
                     boolean draw = town.people[p].worst() == town.people[q].worst();
-                    pairFrom(p + 1, mayRest, draw ? gone : gone + 1);
+                    pairFrom(town, p + 1, mayRest, draw ? gone : gone + 1);
                     tried[q] = OPEN;
                 }
             }
             if (mayRest > 0) {
                 tried[p] = NOBODY;
-                pairFrom(p + 1, mayRest - 1, gone);
+                pairFrom(town, p + 1, mayRest - 1, gone);
             }
             tried[p] = OPEN;
         }
 
         private int partnerOf(int p) {
-            return !town.has(p) || found[p] == NOBODY ? NONE : found[p];
+            return p < 0 || p >= MOST_PEOPLE || found[p] == NOBODY ? NONE : found[p];
         }
     }
 

@@ -1,3 +1,6 @@
+import java.lang.reflect.Method;
+import java.util.Arrays;
+
 /** Counts and prints the answers that are not as due, and makes rows for tests. */
 final class Due {
     private final String name;
@@ -16,6 +19,14 @@ final class Due {
         }
     }
 
+    void alike(String call, String got, String want) {
+        asked++;
+        if (!got.equals(want)) {
+            wrong++;
+            System.out.println(name + ": " + call + " is\n" + got + "\ndue is\n" + want);
+        }
+    }
+
     boolean anyWrong() {
         return wrong > 0;
     }
@@ -24,6 +35,18 @@ final class Due {
         System.out.println(name + ": " + asked + " answers, " + wrong + " not as due");
         if (wrong > 0) {
             System.exit(1);
+        }
+    }
+
+    /** The answer of a call that is told by its name. */
+    static long call(Object of, String name, int... arguments) {
+        Class<?>[] types = new Class<?>[arguments.length];
+        Arrays.fill(types, int.class);
+        try {
+            Method method = of.getClass().getDeclaredMethod(name, types);
+            return ((Number) method.invoke(of, Arrays.stream(arguments).boxed().toArray())).longValue();
+        } catch (ReflectiveOperationException e) {
+            throw new IllegalStateException(name + Arrays.toString(arguments), e);
         }
     }
 

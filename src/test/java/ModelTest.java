@@ -1,4 +1,3 @@
-import java.lang.reflect.Method;
 import java.util.Arrays;
 import java.util.Random;
 
@@ -25,7 +24,7 @@ public final class ModelTest {
         this.due = due;
     }
 
-    public static void main(String[] args) throws ReflectiveOperationException {
+    public static void main(String[] args) {
         Due due = new Due("ModelTest");
         for (int seed = 0; seed < RUNS && !due.anyWrong(); seed++) {
             new ModelTest(seed, due).run();
@@ -33,7 +32,7 @@ public final class ModelTest {
         due.end();
     }
 
-    private void run() throws ReflectiveOperationException {
+    private void run() {
         boolean soon = random.nextInt(8) != 0;
         while (calls < CALLS && !due.anyWrong()) {
             int turn = random.nextInt(40);
@@ -78,14 +77,14 @@ public final class ModelTest {
         }
     }
 
-    private void row(int k, int lane, int... cells) throws ReflectiveOperationException {
+    private void row(int k, int lane, int... cells) {
         call("sheet", k, lane, cells.length);
         for (int i = 0; i < cells.length; i++) {
             call("put", k, i, cells[i]);
         }
     }
 
-    private void tellHarbour() throws ReflectiveOperationException {
+    private void tellHarbour() {
         StringBuilder text = new StringBuilder("v");
         int people = random.nextInt(6) == 0 ? random.nextInt(9) : 2 + random.nextInt(5);
         for (int p = 0; p < people; p++) {
@@ -108,7 +107,7 @@ public final class ModelTest {
         }
     }
 
-    private void tellSeason() throws ReflectiveOperationException {
+    private void tellSeason() {
         int n = random.nextInt(8);
         int[] cells = new int[2 * n];
         for (int j = 0; j < n; j++) {
@@ -124,7 +123,7 @@ public final class ModelTest {
         }
     }
 
-    private void tellTwos() throws ReflectiveOperationException {
+    private void tellTwos() {
         int n = random.nextInt(11);
         int[] cells = new int[2 * n];
         int among = 2 + random.nextInt(5);
@@ -141,7 +140,7 @@ public final class ModelTest {
         call("drops", 2, lane, 0, random.nextInt(n + 1));
     }
 
-    private void askAll() throws ReflectiveOperationException {
+    private void askAll() {
         for (int k = -1; k < 6; k++) {
             call("pairs", k);
         }
@@ -158,21 +157,13 @@ public final class ModelTest {
         call("trace");
     }
 
-    private void call(String name, int... arguments) throws ReflectiveOperationException {
+    private void call(String name, int... arguments) {
         if (calls >= CALLS || due.anyWrong()) {
             return;
         }
         calls++;
-        long got = answer(real, name, arguments);
-        due.is(calls + "th call " + name + Arrays.toString(arguments), got, answer(model, name, arguments));
+        long got = Due.call(real, name, arguments);
+        due.is(calls + "th call " + name + Arrays.toString(arguments), got, Due.call(model, name, arguments));
         due.is("fault() after " + name + Arrays.toString(arguments), real.fault(), model.fault());
-    }
-
-    private static long answer(Object of, String name, int[] arguments) throws ReflectiveOperationException {
-        Class<?>[] types = new Class<?>[arguments.length];
-        Arrays.fill(types, int.class);
-        Method method = of.getClass().getDeclaredMethod(name, types);
-        Object[] boxed = Arrays.stream(arguments).boxed().toArray();
-        return ((Number) method.invoke(of, boxed)).longValue();
     }
 }
