@@ -243,6 +243,7 @@ public final class EdgesTest {
         firstWrongIsTheLastOfTwenty();
         seasonAnswersAtTheEdges();
         seasonIsFromNow();
+        seasonAmongOtherCells();
     }
 
     private static void season(String what, WinnersLeave x, int asked, int due, int... acts) {
@@ -340,6 +341,20 @@ public final class EdgesTest {
         DUE.alike("nothing is changed", Asked.all(x), Asked.all(same));
     }
 
+    // "cells of a SHEET from i on (2 n)": what is ahead and behind is not looked at
+    private static void seasonAmongOtherCells() {
+        for (int lane = 0; lane < 3; lane++) {
+            WinnersLeave x = Due.town("v;p90;p80;p00");
+            Due.row(x, 0, lane, 99, 99, 0, 2, 1, 2, 99, 99);
+            DUE.is("two acts", x.season(0, lane, 2, 2, 2), 0b11);
+            DUE.is("one act", x.season(0, lane, 2, 1, 2), 0b01);
+            DUE.is("the other act", x.season(0, lane, 4, 1, 2), 0b10);
+            DUE.is("no act", x.season(0, lane, 6, 0, 2), 0);
+            DUE.is("one behind", x.season(0, lane, 2, 3, 2), OUTSIDE);
+            DUE.is("one ahead", x.season(0, lane, 0, 3, 2), OUTSIDE);
+        }
+    }
+
     // ---- Terms 3
 
     private static void whoPlaysWhom() {
@@ -434,6 +449,7 @@ public final class EdgesTest {
         dropsOfNoTwos();
         dropsOfTenTwos();
         leastOfSeveralDrops();
+        twosAmongOtherCells();
     }
 
     private static void orders(WinnersLeave x, int many, int[] row, int... twos) {
@@ -509,6 +525,23 @@ public final class EdgesTest {
         drops(x, 0b0110, 0, 1, 1, 0, 1, 0, 0, 1);
         drops(x, 0b100, 0, 1, 0, 1, 1, 0);
         drops(x, 0b10000, 0, 1, 1, 4, 0, 2, 2, 4, 4, 0);
+    }
+
+    private static void twosAmongOtherCells() {
+        for (int lane = 0; lane < 3; lane++) {
+            WinnersLeave x = Due.town("v;p90;p80;p00");
+            Due.row(x, 0, lane, 9, 9, 2, 1, 1, 2, 9, 9);
+            DUE.is("two: orders", x.orders(0, lane, 2, 2, -1), 0);
+            DUE.is("two: drops", x.drops(0, lane, 2, 2), 1);
+            DUE.is("the first: orders", x.orders(0, lane, 2, 1, 1), 2);
+            DUE.is("the second: orders", x.orders(0, lane, 4, 1, 1), 1);
+            DUE.is("none: orders", x.orders(0, lane, 4, 0, -1), 6);
+            DUE.is("none: drops", x.drops(0, lane, 4, 0), 0);
+            DUE.is("one behind: orders", x.orders(0, lane, 2, 3, -1), UNKNOWN);
+            DUE.is("one behind: drops", x.drops(0, lane, 2, 3), UNKNOWN);
+            DUE.is("one ahead: orders", x.orders(0, lane, 0, 3, -1), UNKNOWN);
+            DUE.is("one ahead: drops", x.drops(0, lane, 0, 3), UNKNOWN);
+        }
     }
 
     // ---- Terms 4
@@ -618,6 +651,10 @@ public final class EdgesTest {
         odds("l99", "p99", 11, 20);
         odds("p11", "p11", 1, 4);
         odds("p31", "p43", 3, 8);
+        odds("p33", "p00", 3, 4);
+        odds("p33", "p10", 1, 2);
+        odds("p33", "p20", 1, 4);
+        odds("p33", "p30", 0, 1);
     }
 
     // ---- Terms 5
@@ -625,6 +662,7 @@ public final class EdgesTest {
     private static void sheetsAndParts() {
         atFirst();
         rowsOfEachLength();
+        lostRows();
         cutToTheirLane();
         copiedAsTheyWere();
         traceOfBodies();
@@ -666,6 +704,30 @@ public final class EdgesTest {
                 DUE.is("another lane", x.cell(3, 0, (lane + 1) % 3), LOST);
                 DUE.is("CAST, also of a row of " + n, x.fault(), 2);
             }
+        }
+    }
+
+    // "A SHEET has nothing: 1; 0: it had nothing."
+    private static void lostRows() {
+        for (int k = 0; k < 4; k++) {
+            WinnersLeave x = Due.town("v;p90;p80;p00");
+            for (int n : new int[] {60, 0}) {
+                x.sheet(k, 1, n);
+                x.put(k, 0, 7);
+                DUE.is("lose " + k, x.lose(k), 1);
+                DUE.is("lose it again", x.lose(k), 0);
+                DUE.is("a cell of nothing", x.cell(k, 0, 1), LOST);
+                DUE.is("NULL", x.fault(), 1);
+                DUE.is("put", x.put(k, 0, 1), -11);
+                DUE.is("copy", x.copy(k, 0, k, 0, 0), -11);
+                DUE.is("harbour", x.harbour(k, 0, 0, 0), -11);
+                DUE.is("season", x.season(k, 1, 0, 0, 0), -11);
+                DUE.is("orders", x.orders(k, 2, 0, 0, -1), -11);
+                DUE.is("drops", x.drops(k, 1, 0, 0), -11);
+            }
+            x.sheet(k, 2, 1);
+            DUE.is("0 in a row anew", x.cell(k, 0, 2), 0);
+            DUE.is("people stay", x.many(0), 3);
         }
     }
 

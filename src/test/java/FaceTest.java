@@ -4,6 +4,7 @@ import java.lang.reflect.Method;
 import java.lang.reflect.Modifier;
 import java.nio.file.Files;
 import java.nio.file.Path;
+import java.util.Arrays;
 import java.util.Set;
 import java.util.TreeSet;
 import java.util.regex.Matcher;
@@ -48,6 +49,7 @@ public final class FaceTest {
         for (Method m : WinnersLeave.class.getDeclaredMethods()) {
             if (Modifier.isPrivate(m.getModifiers())) {
                 privateNames.add(m.getName());
+                DUE.is(m + " has at most seven parameters", m.getParameterCount() <= 7 ? 1 : 0, 1);
             } else {
                 publicNames.add(m.getName());
                 methods.add(m.getReturnType() + " " + m.getName() + " " + m.getParameterCount());
@@ -79,6 +81,11 @@ public final class FaceTest {
         for (Class<?> c : inside) {
             DUE.is(c + " is static", Modifier.isStatic(c.getModifiers()) ? 1 : 0, 1);
             DUE.is(c + " is not public", Modifier.isPublic(c.getModifiers()) ? 1 : 0, 0);
+            for (Method m : c.getDeclaredMethods()) {
+                boolean asPublic = Arrays.stream(FACE).anyMatch(call -> call.split(" ")[1].equals(m.getName()));
+                DUE.is(m + " is named as a public one", asPublic ? 1 : 0, 0);
+                DUE.is(m + " has at most seven parameters", m.getParameterCount() <= 7 ? 1 : 0, 1);
+            }
             for (Field f : c.getDeclaredFields()) {
                 boolean kept = Modifier.isStatic(f.getModifiers()) && !Modifier.isFinal(f.getModifiers());
                 DUE.is(f + " is static and changes", kept ? 1 : 0, 0);
