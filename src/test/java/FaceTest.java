@@ -12,7 +12,8 @@ import java.util.regex.Pattern;
 
 /** The public face, its constants, and the rules of LANGUAGE.md that can be read off the source. */
 public final class FaceTest {
-    private static final String SOURCE = "src/main/java/WinnersLeave.java";
+    private static final String SOURCE = "src/main/java/WinnersLeave.java", DOC = "../shared/DOC.md";
+    private static final int MOST_LINES = 60, MOST_FIELDS = 20;
     private static final String[] FACE = {
         "int harbour 4", "int ofPerson 2", "int train 2", "int learn 2", "int game 4", "int shy 2", "int fetch 1",
         "int season 5", "int safe 2", "int sure 1", "int common 2", "int pairs 1", "int orders 5", "int drops 4",
@@ -29,7 +30,12 @@ public final class FaceTest {
         constants();
         face();
         classesInside();
-        forbiddenWords(withoutCommentsAndTexts(Files.readString(Path.of(SOURCE))));
+        String source = Files.readString(Path.of(SOURCE));
+        String document = Files.readString(Path.of(DOC));
+        faceAsWritten(source, document);
+        partsAheadOfCalls(source, document);
+        methodsAreShort(source);
+        forbiddenWords(withoutCommentsAndTexts(source));
         DUE.end();
     }
 
@@ -70,6 +76,55 @@ public final class FaceTest {
         DUE.is("final", Modifier.isFinal(WinnersLeave.class.getModifiers()) ? 1 : 0, 1);
     }
 
+    /** Each line of the document's face stands in the source to the letter. */
+    private static void faceAsWritten(String source, String document) {
+        Matcher line = Pattern.compile("(?m)^ *(public .*(?:;|\\{))$").matcher(document);
+        int lines = 0;
+        while (line.find()) {
+            String due = line.group(1).replace(");", ") {");
+            DUE.is("'" + due + "' in the source", source.contains("\n" + indent(due) + due + "\n") ? 1 : 0, 1);
+            lines++;
+        }
+        DUE.is("lines of the document's face", lines, FACE.length + 4);
+    }
+
+    private static String indent(String line) {
+        return line.contains(" class ") ? "" : "    ";
+    }
+
+    /** "Ahead of the calls .. the interface says": behind that line and ahead of the next one, each of its calls. */
+    private static void partsAheadOfCalls(String source, String document) {
+        Matcher part = Pattern.compile("(?m)^Ahead of the calls (.*) the interface says: (.*)\\.$").matcher(document);
+        int parts = 0;
+        while (part.find()) {
+            int from = source.indexOf("    // " + part.group(2) + "\n");
+            int next = source.indexOf("    // ----", from + 1);
+            for (String call : part.group(1).replaceAll("[` ]", "").split(",")) {
+                int at = source.indexOf(" " + call + "(int");
+                at = at < 0 ? source.indexOf(" " + call + "()") : at;
+                DUE.is(call + " is behind " + part.group(2), from >= 0 && from < at && at < next ? 1 : 0, 1);
+            }
+            parts++;
+        }
+        DUE.is("parts of the interface", parts, 5);
+    }
+
+    private static void methodsAreShort(String source) {
+        Matcher method = Pattern.compile("(?ms)^( +)(?:public|private)[^;=\n]*\\) \\{$.*?^\\1\\}$").matcher(source);
+        int methods = 0;
+        while (method.find()) {
+            String first = method.group().lines().findFirst().orElse("").trim();
+            DUE.is(first + " has at most sixty lines", method.group().lines().count() <= MOST_LINES ? 1 : 0, 1);
+            methods++;
+        }
+        DUE.is("more methods than the face's are found", methods > FACE.length ? 1 : 0, 1);
+    }
+
+    private static void fewFields(Class<?> of) {
+        long fields = Arrays.stream(of.getDeclaredFields()).filter(f -> !Modifier.isStatic(f.getModifiers())).count();
+        DUE.is(of + " has at most twenty fields", fields <= MOST_FIELDS ? 1 : 0, 1);
+    }
+
     private static void same(String what, Set<String> got, String[] due) {
         Set<String> dueSet = Set.of(due);
         DUE.is(what + " " + got, got.equals(dueSet) ? 1 : 0, 1);
@@ -78,7 +133,9 @@ public final class FaceTest {
     private static void classesInside() {
         Class<?>[] inside = WinnersLeave.class.getDeclaredClasses();
         DUE.is("at most twelve classes", inside.length <= 11 ? 1 : 0, 1);
+        fewFields(WinnersLeave.class);
         for (Class<?> c : inside) {
+            fewFields(c);
             DUE.is(c + " is static", Modifier.isStatic(c.getModifiers()) ? 1 : 0, 1);
             DUE.is(c + " is not public", Modifier.isPublic(c.getModifiers()) ? 1 : 0, 0);
             for (Method m : c.getDeclaredMethods()) {
